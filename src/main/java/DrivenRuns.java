@@ -839,7 +839,7 @@ public final class DrivenRuns {
         static final int CLOSED = 2;
 
         final byte[] tape;
-        /** The things whose ( are open, by their cells' places, and how many arguments they have. */
+        /** The things whose ( are open, by their cells' places, and how many arguments came. */
         final int[] heads;
         final int[] counts;
         final Expr value;
@@ -1547,7 +1547,8 @@ public final class DrivenRuns {
                     at++;
                     otherAt++;
                 } else {
-                    into.add(Expr.cell(Expr.VAR, 0, firstVar + indexOfPair(one, at, other, otherAt)));
+                    int pair = indexOfPair(one, at, other, otherAt);
+                    into.add(Expr.cell(Expr.VAR, 0, firstVar + pair));
                     at = one.behind(at);
                     otherAt = other.behind(otherAt);
                 }
@@ -1790,7 +1791,7 @@ public final class DrivenRuns {
             clear();
             program = by;
             int status = addNode(null, goal);
-            for (int round = 0; round < MOST_LOOKED && status == WELL && nextLook < count; round++) {
+            while (looked < MOST_LOOKED && status == WELL && nextLook < count) {
                 Node node = line[nextLook];
                 looked++;
                 nextLook++;
@@ -1993,7 +1994,7 @@ public final class DrivenRuns {
                     fillSplit(node, clause.con);
                     runner.makeStep(part, nextAt, clause, made);
                     status = addNode(node, made);
-                    if (status == WELL) {
+                    if (status == WELL && node.last != null) {
                         node.last.con = clause.con;
                         node.last.conVar = nextVar;
                     }
@@ -2256,7 +2257,8 @@ public final class DrivenRuns {
                 return;
             }
             listArguments(node);
-            clause.function = Expr.cell(Expr.CALL, argumentCount, Expr.FIRST_FUNCTION + node.function);
+            int name = Expr.FIRST_FUNCTION + node.function;
+            clause.function = Expr.cell(Expr.CALL, argumentCount, name);
             if (node.kind == Node.SPLIT) {
                 clause.con = below.con;
                 listLeftVars(node, below);
