@@ -23,15 +23,6 @@ public final class DrivingTest {
         Talk.finish("DrivingTest");
     }
 
-    private static Talk told(String program, String goal) {
-        Talk t = new Talk();
-        t.program(program);
-        Talk.due("fault of " + program, t.x.fault(), NONE);
-        t.goal(goal);
-        Talk.due("fault of " + goal, t.x.fault(), NONE);
-        return t;
-    }
-
     /** Drives, and compares all that node(k, 0 .. 8) and writeNode(k) answer. */
     private static void dueTree(Talk t, int[][] nodes, String[] texts) {
         Talk.due("drive()", t.x.drive(), nodes.length);
@@ -63,7 +54,7 @@ public final class DrivingTest {
     }
 
     private static void append() {
-        Talk t = told(APPEND, "a(a(x,y),z)");
+        Talk t = Talk.told(APPEND, "a(a(x,y),z)");
         int[][] nodes = {
             {3, -1, -1, 0, 5, 3, 2, -1, 0},
             {3, 0, 0, 1, 3, 2, 2, -1, 1},
@@ -92,7 +83,7 @@ public final class DrivingTest {
     }
 
     private static void accumulator() {
-        Talk t = told("b(Z,x)=x;b(S(x),y)=b(x,S(y));c(x)=b(x,x);", "c(y)");
+        Talk t = Talk.told("b(Z,x)=x;b(S(x),y)=b(x,S(y));c(x)=b(x,x);", "c(y)");
         int[][] nodes = {
             {2, -1, -1, 0, 2, 1, 1, -1, -1},
             {5, 0, 0, 1, 3, 1, 3, -1, -1},
@@ -115,7 +106,7 @@ public final class DrivingTest {
     }
 
     private static void instanceOfAbove() {
-        Talk t = told("i(x)=i(S(x));", "i(t)");
+        Talk t = Talk.told("i(x)=i(S(x));", "i(t)");
         int[][] nodes = {
             {2, -1, -1, 0, 2, 1, 1, -1, 0},
             {5, 0, 0, 1, 3, 1, 2, -1, -1},
@@ -125,13 +116,13 @@ public final class DrivingTest {
         };
         dueTree(t, nodes, new String[] {"i(m0)", "i(S(m0))", "i(m0)", "S(m0)", "m0"});
         dueResidue(t, new int[] {5, 5, 1, 0, 1, 0, 3, 3, 1, 1, 2}, "a0(m0)=a0(S(m0));", "a0(t)");
-        t = told("h(x,y)=h(y,x);", "h(x,y)");
+        t = Talk.told("h(x,y)=h(y,x);", "h(x,y)");
         Talk.due("a RENAMING", t.x.drive(), 2);
         Talk.due("its VARS in place", t.text(0), "a0(m0,m1)=a0(m1,m0);");
     }
 
     private static void conAndStuck() {
-        Talk t = told("k(x)=k(k(x));a(Z)=Z;a(S(x))=a(a(x));", "C(k(A),a(x),!,b())");
+        Talk t = Talk.told("k(x)=k(k(x));a(Z)=Z;a(S(x))=a(a(x));", "C(k(A),a(x),!,b())");
         int[][] nodes = {
             {1, -1, -1, 0, 7, 1, 4, -1, -1},
             {5, 0, 0, 1, 2, 0, 2, -1, -1},
@@ -155,7 +146,7 @@ public final class DrivingTest {
                 "a0(m0)=a0(a0(m0));a1(Z)=Z;a1(S(m0))=a1(a1(m0));", "C(a0(A),a1(x),!,!)");
         // !, no CASE, not told: nothing below
         for (String goal : new String[] {"a(!)", "a(B)", "a(S)", "a(c())", "d(x)", "a(a(!))"}) {
-            t = told("a(Z)=Z;a(S(x))=a(x);", goal);
+            t = Talk.told("a(Z)=Z;a(S(x))=a(x);", goal);
             int size = goal.equals("a(a(!))") ? 3 : 2;
             int vars = goal.equals("d(x)") ? 1 : 0;
             dueTree(t, new int[][] {{6, -1, -1, 0, size, vars, 0, -1, -1}}, new String[] {goal.replace("x", "m0")});
@@ -165,7 +156,7 @@ public final class DrivingTest {
 
     private static void splitWherever() {
         // the VAR stands in three places; CASES in the order told; a VAR that is gone below
-        Talk t = told("e(T,x,y)=x;e(P(x,y),z,t)=C(x,y,z,t);e(F,x,y)=y;", "e(x,S(x),y)");
+        Talk t = Talk.told("e(T,x,y)=x;e(P(x,y),z,t)=C(x,y,z,t);e(F,x,y)=y;", "e(x,S(x),y)");
         int[][] nodes = {
             {3, -1, -1, 0, 5, 2, 3, -1, 0},
             {1, 0, 0, 1, 2, 0, 1, -1, -1},
@@ -185,7 +176,7 @@ public final class DrivingTest {
         dueResidue(t, new int[] {12, 12, 0, 1, 0, 0, 8, 4, 1, 3, 3},
                 "a0(T,m0)=S(T);a0(P(m0,m1),m2)=C(m0,m1,S(P(m0,m1)),m2);a0(F,m0)=m0;", "a0(x,y)");
         // the VAR that BLOCKED comes first; the FOLDED one's own VARS stand for those
-        t = told("g(x,y)=f(y,x);f(Z,x)=x;f(S(x),y)=C(x,y,f(x,y));", "S(g(x,y))");
+        t = Talk.told("g(x,y)=f(y,x);f(Z,x)=x;f(S(x),y)=C(x,y,f(x,y));", "S(g(x,y))");
         t.x.drive();
         Talk.due("the residue", t.text(0), "a0(Z,m0)=m0;a0(S(m0),m1)=C(m0,m1,a0(m0,m1));");
         Talk.due("the new goal", t.text(1), "S(a0(y,x))");
@@ -193,7 +184,7 @@ public final class DrivingTest {
 
     private static void namelessTree() {
         // LET: a VAR that stands twice, and one that is gone in what comes of the first one
-        Talk t = told("b(Z,x,y)=x;b(S(z),x,y)=b(z,C(x,x),D(y));", "b(x,A,B)");
+        Talk t = Talk.told("b(Z,x,y)=x;b(S(z),x,y)=b(z,C(x,x),D(y));", "b(x,A,B)");
         t.x.drive();
         Talk.due("tree(5)", t.x.tree(5), 1);
         Talk.due("the residue", t.text(0), "a0(Z,m0,m1)=m0;a0(S(m0),m1,m2)=a0(m0,C(m1,m1),D(m2));");
@@ -219,7 +210,7 @@ public final class DrivingTest {
     }
 
     private static void ranks() {
-        Talk t = told(APPEND, "a(a(x,y),z)");
+        Talk t = Talk.told(APPEND, "a(a(x,y),z)");
         Talk.due("ranked", t.x.ranked(0, 0), NONE);
         t.x.drive();
         dueRanks(t, 0, 6, 7, 0, 3, 9, 1, 5, 2, 4, 8);
@@ -237,7 +228,7 @@ public final class DrivingTest {
             program.append("d").append(i).append("()=d").append(i + 1).append("();");
         }
         program.append("d").append(more).append("()=").append(end).append(";e(x)=C(x,x,x,x);");
-        return told(program.toString(), "b(" + Talk.nested("T(", 18, "Z", ")") + ")");
+        return Talk.told(program.toString(), "b(" + Talk.nested("T(", 18, "Z", ")") + ")");
     }
 
     private static void dueNoTree(Talk t, int code) {
@@ -272,7 +263,7 @@ public final class DrivingTest {
         }
         String eleven = Talk.nested("S(", 9, "A", ")");
         String program = "b(T(x))=C(b(x),Z,Z,Z);b(Z)=" + right + ";f()=g();g()=e(" + eleven + ");e(x)=C(x,x,x,x);";
-        return told(program, "b(" + Talk.nested("T(", 18, "Z", ")") + ")");
+        return Talk.told(program, "b(" + Talk.nested("T(", 18, "Z", ")") + ")");
     }
 
     private static void manyMade() {
@@ -285,7 +276,7 @@ public final class DrivingTest {
 
     private static void tooLarge() {
         String ten = Talk.nested("S(", 9, "A", ")");
-        Talk t = told("e(x)=C(x,x,x,S(x));f(x)=C(x,x,x,x);g(x)=C(C(x,x,x,x));", "e(" + ten + ")");
+        Talk t = Talk.told("e(x)=C(x,x,x,S(x));f(x)=C(x,x,x,x);g(x)=C(C(x,x,x,x));", "e(" + ten + ")");
         dueNoTree(t, -3);
         t.goal("f(" + ten + ")");
         dueNoTree(t, -3);
@@ -297,7 +288,7 @@ public final class DrivingTest {
         t.goal("e(" + ten + ")");
         dueNoTree(t, -3);
         // NODE 0 is asked, too: what comes of 5 calls with 8 VARS
-        t = told("d(Z,x)=Z;d(S(y),x)=C(x,d(y,x));f(Z,m,n,o,p,q,r,s)=Z;", "d(S(S(S(S(S(Z))))),f(x,y,z,t,u,v,w,m))");
+        t = Talk.told("d(Z,x)=Z;d(S(y),x)=C(x,d(y,x));f(Z,m,n,o,p,q,r,s)=Z;", "d(S(S(S(S(S(Z))))),f(x,y,z,t,u,v,w,m))");
         Talk.due("drive()", t.x.drive() > 0 ? 1 : 0, 1);
         Talk.due("tree(10)", t.x.tree(10), 51);
         Talk.due("take()", t.x.take(), 5);
@@ -306,7 +297,7 @@ public final class DrivingTest {
     }
 
     private static void manyArguments() {
-        Talk t = told("f(Z,x)=x;f(S(y),x)=f(y,x);b(x,y)=y;", "f(m,C(D(n,o,p,q),D(r,s,t)))");
+        Talk t = Talk.told("f(Z,x)=x;f(S(y),x)=f(y,x);b(x,y)=y;", "f(m,C(D(n,o,p,q),D(r,s,t)))");
         Talk.due("8 arguments", t.x.drive() > 0 ? 1 : 0, 1);
         Talk.due("the new goal", t.text(1), "a0(m,n,o,p,q,r,s,t)");
         t.goal("f(m,C(D(n,o,p,q),D(r,s,t,u)))");
@@ -324,11 +315,12 @@ public final class DrivingTest {
     }
 
     private static void manyClauses() {
-        Talk t = told(cases(20), "C(g(x,Z),g(y,z))");
+        Talk t = Talk.told(cases(20), "C(g(x,Z),g(y,z))");
         Talk.due("40 CLAUSES", t.x.drive(), 43);
         Talk.due("tree(9)", t.x.tree(9), 40);
-        t = told(cases(21), "C(g(x,Z),g(y,z))");
+        t = Talk.told(cases(21), "C(g(x,Z),g(y,z))");
         dueNoTree(t, -5);
+        dueNoTree(Talk.told(cases(20) + "i()=i();", "C(g(x,Z),g(y,z),i())"), -5);
         // both: arguments are asked ahead of CLAUSES
         t.goal("C(g(x,Z),g(y,C(D(n,o,p,q),D(r,s,t,u))))");
         dueNoTree(t, -4);
@@ -339,7 +331,7 @@ public final class DrivingTest {
         for (int i = 0; i < cases; i++) {
             program.append("f(").append((char) ('A' + i)).append(",m,n,o,p,q,r,s)=Z;");
         }
-        return told(program.toString(), "d(" + Talk.nested("S(", times, "Z", ")") + "," + call + ")");
+        return Talk.told(program.toString(), "d(" + Talk.nested("S(", times, "Z", ")") + "," + call + ")");
     }
 
     private static void largeComing() {
@@ -355,7 +347,7 @@ public final class DrivingTest {
     }
 
     private static void noTree() {
-        Talk t = told(APPEND, "a(x,y)");
+        Talk t = Talk.told(APPEND, "a(x,y)");
         Talk.due("tree(0)", t.x.tree(0), NONE);
         Talk.due("text(0)", t.x.text(0), NONE);
         Talk.due("text(1)", t.x.text(1), NONE);
@@ -379,7 +371,7 @@ public final class DrivingTest {
     }
 
     private static void take() {
-        Talk t = told(APPEND, "a(a(x,y),z)");
+        Talk t = Talk.told(APPEND, "a(a(x,y),z)");
         Talk.due("take()", t.x.take(), NONE);
         t.x.drive();
         String residue = t.text(0);
@@ -407,7 +399,7 @@ public final class DrivingTest {
     }
 
     private static void saved() {
-        Talk t = told(APPEND, "a(a(x,y),z)");
+        Talk t = Talk.told(APPEND, "a(a(x,y),z)");
         Talk.due("no tree", t.x.saved(), -1001);
         t.x.drive();
         Talk.due("both STUCK", t.x.saved(), 0);
@@ -418,14 +410,14 @@ public final class DrivingTest {
         Talk.due("deepest() of the first", t.x.deepest(), 4);
         t.x.saved();
         Talk.due("deepest() of the second", t.x.deepest(), 4);
-        t = told("i(x)=i(S(x));", "i(Z)");
+        t = Talk.told("i(x)=i(S(x));", "i(Z)");
         t.x.drive();
         Talk.due("not so", t.x.saved(), -1000);
-        t = told("i(x)=i(x);", "i(Z)");
+        t = Talk.told("i(x)=i(x);", "i(Z)");
         t.x.drive();
         Talk.due("not so", t.x.saved(), -1000);
         // STUCK in one, DONE in the other: what is not asked for is taken out
-        t = told("a()=B;", "S(a())");
+        t = Talk.told("a()=B;", "S(a())");
         t.x.drive();
         Talk.due("both DONE", t.x.saved(), 1);
         Talk.due("deepest() without a STEP", t.x.deepest(), 0);

@@ -19,17 +19,8 @@ public final class RunningTest {
         Talk.finish("RunningTest");
     }
 
-    private static Talk told(String program, String goal) {
-        Talk t = new Talk();
-        t.program(program);
-        Talk.due("fault of " + program, t.x.fault(), NONE);
-        t.goal(goal);
-        Talk.due("fault of " + goal, t.x.fault(), NONE);
-        return t;
-    }
-
     private static void runs() {
-        Talk t = told(ADD, "a(S(S(Z)),S(Z))");
+        Talk t = Talk.told(ADD, "a(S(S(Z)),S(Z))");
         t.dueRun(0, 0, 3, 4, 6);
         Talk.due("result", t.result(0), "S(S(S(Z)))");
         for (int w : new int[] {-1, 4, 99, Integer.MIN_VALUE}) {
@@ -42,20 +33,20 @@ public final class RunningTest {
         Talk.due("what was written stays", t.written(), "S(S(S(Z)))");
         Talk.due("the goal stays", t.text(3), "a(S(S(Z)),S(Z))");
         // arguments go on as they are: b's call is copied, and run twice
-        t = told("b(x)=C(x,x);c()=A;", "b(c())");
+        t = Talk.told("b(x)=C(x,x);c()=A;", "b(c())");
         t.dueRun(0, 0, 3, 3, 3);
         // the outermost one first: what is not asked for is not run
-        t = told("b(x)=A;c()=c();", "b(c())");
+        t = Talk.told("b(x)=A;c()=c();", "b(c())");
         t.dueRun(0, 0, 1, 1, 2);
-        t = told(ADD, "C(x,a(Z,A),a(S(Z),B))");
+        t = Talk.told(ADD, "C(x,a(Z,A),a(S(Z),B))");
         t.dueRun(0, 0, 3, 5, 9);
         Talk.due("result", t.result(0), "C(x,A,S(B))");
-        t = told("", "C(x,A)");
+        t = Talk.told("", "C(x,A)");
         t.dueRun(0, 0, 0, 3, 3);
         t.bind("x=S(S(Z))");
         t.dueRun(0, 0, 0, 5, 5);
         // functions, CONS with unlike many arguments are unlike
-        t = told("a()=A;a(x)=a(x,x);a(S,x)=x;a(S(y),x)=y;", "C(a(),a(S),a(S(B)))");
+        t = Talk.told("a()=A;a(x)=a(x,x);a(S,x)=x;a(S(y),x)=y;", "C(a(),a(S),a(S(B)))");
         t.dueRun(0, 0, 5, 4, 8);
         Talk.due("result", t.result(0), "C(A,S,B)");
         t.goal("a(A,B,C)");
@@ -66,13 +57,13 @@ public final class RunningTest {
         String[] goals = {"!", "k(x)", "a(x,Z)", "a(!,Z)", "a(A,Z)", "a(S,Z)", "a(Z(Z),Z)", "a(a(x,Z),Z)",
             "k(Z)", "C(!,a(Z,Z))", "C(A,a(x,A),a(Z,Z))", "a(k(),Z)", "S(S(a(x,y)))"};
         for (String goal : goals) {
-            Talk t = told(ADD, goal);
+            Talk t = Talk.told(ADD, goal);
             Talk.due("run(0, 0) of " + goal, t.x.run(0, 0), 1);
             Talk.due("run(0, 1) of " + goal, t.x.run(0, 1), 0);
             Talk.due("result of " + goal, t.result(0), goal);
             Talk.due("deepest() of " + goal, t.x.deepest(), 0);
         }
-        Talk t = told(ADD, "C(a(S(Z),A),a(x,B),a(Z,D))");
+        Talk t = Talk.told(ADD, "C(a(S(Z),A),a(x,B),a(Z,D))");
         t.dueRun(0, 1, 2, 9, 11);
         Talk.due("result", t.result(0), "C(S(A),a(x,B),a(Z,D))");
         // as it stands: C, S(A), a(x,B), a(Z,D) have 1 + 2 + 3 + 3
@@ -81,18 +72,18 @@ public final class RunningTest {
     }
 
     private static void endlessRuns() {
-        Talk t = told("a(x)=a(x);b(S(x))=b(x);c(x)=c(S(x));", "a(Z)");
+        Talk t = Talk.told("a(x)=a(x);b(S(x))=b(x);c(x)=c(S(x));", "a(Z)");
         t.dueRun(0, 2, 200, 2, 2);
         t.goal("c(Z)");
         t.dueRun(0, 3, 119, 121, 121);
-        t = told("b(Z)=A;b(O)=O;b(S(x))=b(x);", "b(S(S(Z)))");
+        t = Talk.told("b(Z)=A;b(O)=O;b(S(x))=b(x);", "b(S(S(Z)))");
         t.dueRun(0, 0, 3, 1, 4);
         // 200 STEPS that end DONE, or STUCK, are no endless ones
-        t = told(chain(200, "A"), "a0()");
+        t = Talk.told(chain(200, "A"), "a0()");
         t.dueRun(0, 0, 200, 1, 20);
-        t = told(chain(201, "A"), "a0()");
+        t = Talk.told(chain(201, "A"), "a0()");
         t.dueRun(0, 2, 200, 1, 20);
-        t = told(chain(200, "!"), "a0()");
+        t = Talk.told(chain(200, "!"), "a0()");
         t.dueRun(0, 1, 200, 1, 20);
     }
 
@@ -115,7 +106,7 @@ public final class RunningTest {
 
     private static void largeRuns() {
         // 4 VARS of 30 things, and one CON: 121
-        Talk t = told("a(x)=C(x,x,x,x);", "C(x,y,z,t)");
+        Talk t = Talk.told("a(x)=C(x,x,x,x);", "C(x,y,z,t)");
         String value = "C(" + Talk.nested("S(", 9, "A", ")") + "," + Talk.nested("S(", 9, "A", ")") + ","
                 + Talk.nested("S(", 8, "A", ")") + ")";
         t.bind("x=" + value + ";y=" + value + ";z=" + value + ";t=" + value);
@@ -133,7 +124,7 @@ public final class RunningTest {
         t.goal("C(!,x,x,C(x,x))");
         t.dueRun(0, 3, 0, 123, 123);
         // 40 things, each of 40
-        t = told("", "D(D(x,x,x,x),D(x,x,x,x),D(x,x,x,x),D(D(x,x,x,x),D(x,x,x,x),D(x,x,x,x),D(x,x,x)))");
+        t = Talk.told("", "D(D(x,x,x,x),D(x,x,x,x),D(x,x,x,x),D(D(x,x,x,x),D(x,x,x,x),D(x,x,x,x),D(x,x,x)))");
         t.bind("x=" + forty());
         Talk.due("run(0, 2)", t.x.run(0, 2), 27 * 40 + 9);
         Talk.due("run(0, 0)", t.x.run(0, 0), 3);
@@ -147,7 +138,7 @@ public final class RunningTest {
     }
 
     private static void runsOfExpressions() {
-        Talk t = told(ADD, "!");
+        Talk t = Talk.told(ADD, "!");
         t.expression(2, "a(S(x),a(Z,y))");
         int[] blocked = {1, 1, 6, 6};
         for (int what = 0; what < 4; what++) {
@@ -168,7 +159,7 @@ public final class RunningTest {
     }
 
     private static void deepest() {
-        Talk t = told(ADD, "S(S(a(a(a(Z,Z),Z),S(Z))))");
+        Talk t = Talk.told(ADD, "S(S(a(a(a(Z,Z),Z),S(Z))))");
         t.dueRun(0, 0, 3, 4, 10);
         Talk.due("deepest()", t.x.deepest(), 5);
         t.expression(0, "a(S(S(Z)),Z)");
@@ -280,7 +271,7 @@ public final class RunningTest {
     }
 
     private static void steps() {
-        Talk t = told(ADD + "b(x)=C(x,x,x);e(x,y)=y;", "!");
+        Talk t = Talk.told(ADD + "b(x)=C(x,x,x);e(x,y)=y;", "!");
         t.expression(0, "a(S(x),a(Z,y))");
         Talk.due("step", t.x.step(0, 1), 1);
         Talk.due("write(1)", t.write(1), "S(a(x,a(Z,y)))");

@@ -23,6 +23,16 @@ final class Talk {
         }
     }
 
+    /** An object that was told a program and a goal, both without a FAULT. */
+    static Talk told(String program, String goal) {
+        Talk t = new Talk();
+        t.program(program);
+        due("fault of " + program, t.x.fault(), NONE);
+        t.goal(goal);
+        due("fault of " + goal, t.x.fault(), NONE);
+        return t;
+    }
+
     /** Puts a text on the tape, in place of what is there. */
     Talk tape(String text) {
         x.end(0);
