@@ -73,7 +73,7 @@ public final class DrivingTest {
         dueResidue(t, new int[] {10, 10, 2, 2, 0, 0, 7, 3, 2, 4, 4},
                 "a0(N,m0,m1)=a1(m0,m1);a0(C(m0,m1),m2,m3)=C(m0,a0(m1,m2,m3));"
                 + "a1(N,m0)=m0;a1(C(m0,m1),m2)=C(m0,a1(m1,m2));", "a0(x,y,z)");
-        t.goal("a(a(z9,x),m3)");
+        t = Talk.told(APPEND, "a(a(z9,x),m3)");
         Talk.due("drive()", t.x.drive(), 10);
         Talk.due("VARS as in the GOAL", t.text(1), "a0(z9,x,m3)");
         // a VAR that stands twice is split in both places: then it grows, and is told apart
@@ -390,8 +390,7 @@ public final class DrivingTest {
         Talk.due("the new residue", t.text(0), residue);
         Talk.due("the new goal", t.text(1), "a0(x,y,z)");
         // what was taken stays when another is driven
-        t.program("a()=B;");
-        t.goal("a()");
+        t = Talk.told("a()=B;", "a()");
         t.x.drive();
         t.x.take();
         Talk.due("no clauses", t.text(2), "");

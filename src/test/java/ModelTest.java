@@ -1,9 +1,11 @@
 /** Long rows of calls by chance (always the same ones), each answer compared with the model's. */
 public final class ModelTest {
     private static final int MOST_TOLD_WRONG = 20;
+    /** Some less than 512: what is asked for last goes on to its end. */
+    private static final int MOST_CALLS = 440;
 
     private long seed;
-    private DrivenRuns x;
+    private Counted x;
     private Model y;
     private StringBuilder trace;
     private int calls;
@@ -13,7 +15,7 @@ public final class ModelTest {
     private final int[] kinds = new int[8];
 
     public static void main(String[] args) {
-        int rounds = args.length > 0 ? Integer.parseInt(args[0]) : 6000;
+        int rounds = args.length > 0 ? Integer.parseInt(args[0]) : 20000;
         int from = args.length > 1 ? Integer.parseInt(args[1]) : 0;
         ModelTest test = new ModelTest();
         for (int i = from; i < from + rounds && test.wrong < MOST_TOLD_WRONG; i++) {
@@ -24,7 +26,7 @@ public final class ModelTest {
                 + test.drives[3] + ", -4 " + test.drives[4] + ", -5 " + test.drives[5] + ", -6 " + test.drives[6]);
         test.note("NODES: FOLDED " + test.kinds[2] + ", SPLIT " + test.kinds[3] + ", LET " + test.kinds[4]
                 + ", NODES above that became LET " + test.kinds[5] + "; most NODES " + test.kinds[0]);
-        if (test.wrong > 0) {
+        if (test.wrong + Talk.wrong > 0) {
             System.exit(1);
         }
     }
@@ -39,6 +41,7 @@ public final class ModelTest {
     }
 
     private void due(String call, long got, long want) {
+        calls++;
         compared++;
         if (got != want) {
             wrong++;
@@ -51,14 +54,14 @@ public final class ModelTest {
         for (int i = 0; i < 10; i++) {
             pick(2);
         }
-        x = new DrivenRuns();
+        x = new Counted();
         y = new Model();
         trace = new StringBuilder();
         calls = 0;
-        int texts = 1 + pick(3);
-        for (int t = 0; t < texts && wrong == 0; t++) {
+        int texts = 1 + pick(2);
+        for (int t = 1; t <= texts && wrong == 0; t++) {
             tellAll();
-            askAll();
+            askAll(MOST_CALLS * t / texts);
         }
     }
 
@@ -330,33 +333,72 @@ public final class ModelTest {
 
     // ---- asking
 
-    private void askAll() {
-        askState();
-        askExpressions();
-        int times = 1 + pick(2);
-        for (int i = 0; i < times && wrong == 0; i++) {
-            askDriven();
-            askState();
-            if (pick(2) == 0) {
-                due("take", x.take(), y.take());
-                trace.append("  take\n");
+    private static final int NONE = -1;
+
+    /** Asks by chance, as long as the object may be asked; the tree first, and often. */
+    private void askAll(int most) {
+        askDriven();
+        while (calls < most && wrong == 0) {
+            switch (pick(16)) {
+                case 0:
+                    askState();
+                    break;
+                case 1:
+                    written("text(2)", x.text(2), y.text(2));
+                    break;
+                case 2:
+                    written("text(3)", x.text(3), y.text(3));
+                    break;
+                case 3:
+                    askExpression(pick(6) - 1);
+                    break;
+                case 4:
+                case 5:
+                    askPair(pick(6) - 1, pick(6) - 1);
+                    break;
+                case 6:
+                    askStep();
+                    break;
+                case 7:
+                case 8:
+                case 9:
+                    askNode(pick(Math.max(2, y.tree(0) + 2)) - 1);
+                    break;
+                case 10:
+                    askRuns(pick(4) - 1);
+                    break;
+                case 11:
+                    written("text(0)", x.text(0), y.text(0));
+                    break;
+                case 12:
+                    written("text(1)", x.text(1), y.text(1));
+                    break;
+                case 13:
+                    due("saved", x.saved(), y.saved());
+                    due("deepest", x.deepest(), y.deepest());
+                    break;
+                case 14:
+                    askDriven();
+                    break;
+                default:
+                    askTake();
+                    break;
             }
         }
     }
 
+    /** Some bytes of what was written, and those about its ends. */
     private void written(String call, int got, int want) {
         due(call, got, want);
-        String text = y.written();
-        for (int k = -1; k <= text.length() && k < 1500; k++) {
+        int length = y.written().length();
+        int step = Math.max(1, length / 24);
+        for (int k = pick(step); k < length; k += step) {
             due(call + " octet(" + k + ")", x.octet(k), y.octet(k));
         }
-        due(call + " octet at the end", x.octet(text.length()), NONE);
-        if (text.length() > 0) {
-            due(call + " last octet", x.octet(text.length() - 1), text.charAt(text.length() - 1));
+        for (int k : new int[] {-1, length - 1, length}) {
+            due(call + " octet(" + k + ")", x.octet(k), y.octet(k));
         }
     }
-
-    private static final int NONE = -1;
 
     private void askState() {
         for (int w = -1; w <= 8; w++) {
@@ -366,29 +408,24 @@ public final class ModelTest {
         for (int w = -1; w <= 5; w++) {
             due("clause(" + k + "," + w + ")", x.clause(k, w), y.clause(k, w));
         }
-        written("text(2)", x.text(2), y.text(2));
-        written("text(3)", x.text(3), y.text(3));
+        due("fault()", x.fault(), y.fault());
     }
 
-    private void askExpressions() {
-        for (int i = -1; i <= 4; i++) {
-            written("write(" + i + ")", x.write(i), y.write(i));
-            for (int w = -1; w <= 5; w++) {
-                due("of(" + i + "," + w + ")", x.of(i, w), y.of(i, w));
-                due("runOf(" + i + "," + w + ")", x.runOf(i, w), y.runOf(i, w));
-            }
-            due("deepest", x.deepest(), y.deepest());
-            for (int j = -1; j <= 4; j++) {
-                askPair(i, j);
-            }
+    private void askExpression(int i) {
+        written("write(" + i + ")", x.write(i), y.write(i));
+        for (int w = -1; w <= 5; w++) {
+            due("of(" + i + "," + w + ")", x.of(i, w), y.of(i, w));
+            due("runOf(" + i + "," + w + ")", x.runOf(i, w), y.runOf(i, w));
         }
-        for (int t = 0; t < 3; t++) {
-            int i = pick(5);
-            int k = pick(5);
-            due("step(" + i + "," + k + ")", x.step(i, k), y.step(i, k));
-            trace.append("  step ").append(i).append(' ').append(k).append('\n');
-            written("write(" + k + ")", x.write(k), y.write(k));
-        }
+        due("deepest", x.deepest(), y.deepest());
+    }
+
+    private void askStep() {
+        int i = pick(5);
+        int k = pick(5);
+        due("step(" + i + "," + k + ")", x.step(i, k), y.step(i, k));
+        trace.append("  step ").append(i).append(' ').append(k).append('\n');
+        written("write(" + k + ")", x.write(k), y.write(k));
     }
 
     private void askPair(int i, int j) {
@@ -396,7 +433,10 @@ public final class ModelTest {
             String call = "relation(" + i + "," + j + "," + w + ")";
             due(call, x.relation(i, j, w), y.relation(i, j, w));
         }
-        written("common(" + i + "," + j + ")", x.common(i, j), y.common(i, j));
+        // a COMMON form is asked for by itself, too
+        if (pick(2) == 0) {
+            written("common(" + i + "," + j + ")", x.common(i, j), y.common(i, j));
+        }
         for (int w = -1; w <= 2; w++) {
             String call = "commonOf(" + i + "," + j + "," + w + ")";
             due(call, x.commonOf(i, j, w), y.commonOf(i, j, w));
@@ -411,32 +451,33 @@ public final class ModelTest {
         for (int w = -1; w <= 11; w++) {
             due("tree(" + w + ")", x.tree(w), y.tree(w));
         }
-        int nodes = Math.max(0, driven);
-        kinds[0] = Math.max(kinds[0], nodes);
+        kinds[0] = Math.max(kinds[0], driven);
         for (int w = 2; w <= 5 && driven > 0; w++) {
             kinds[w] += y.tree(w);
         }
-        for (int k = -1; k <= nodes; k++) {
-            for (int w = -1; w <= 9; w++) {
-                due("node(" + k + "," + w + ")", x.node(k, w), y.node(k, w));
-            }
-            for (int w = -1; w <= 3; w++) {
-                due("ranked(" + k + "," + w + ")", x.ranked(k, w), y.ranked(k, w));
-            }
-            if (k < 12) {
-                written("writeNode(" + k + ")", x.writeNode(k), y.writeNode(k));
-            }
+    }
+
+    private void askNode(int k) {
+        for (int w = -1; w <= 9; w++) {
+            due("node(" + k + "," + w + ")", x.node(k, w), y.node(k, w));
         }
-        written("text(0)", x.text(0), y.text(0));
-        written("text(1)", x.text(1), y.text(1));
-        for (int which = -1; which <= 2; which++) {
-            for (int w = -1; w <= 4; w++) {
-                due("run(" + which + "," + w + ")", x.run(which, w), y.run(which, w));
-            }
-            due("deepest", x.deepest(), y.deepest());
-            written("result(" + which + ")", x.result(which), y.result(which));
+        for (int w = -1; w <= 3; w++) {
+            due("ranked(" + k + "," + w + ")", x.ranked(k, w), y.ranked(k, w));
         }
-        due("saved", x.saved(), y.saved());
+        written("writeNode(" + k + ")", x.writeNode(k), y.writeNode(k));
+    }
+
+    private void askRuns(int which) {
+        for (int w = -1; w <= 4; w++) {
+            due("run(" + which + "," + w + ")", x.run(which, w), y.run(which, w));
+        }
         due("deepest", x.deepest(), y.deepest());
+        written("result(" + which + ")", x.result(which), y.result(which));
+    }
+
+    private void askTake() {
+        due("take", x.take(), y.take());
+        trace.append("  take\n");
+        askState();
     }
 }

@@ -35,11 +35,11 @@ public final class ReadingTest {
         for (int i = 0; i < 4; i++) {
             Talk.due("write", t.write(i), "!");
         }
-        Talk.due("octet(0) ahead of any", new DrivenRuns().octet(0), NONE);
+        Talk.due("octet(0) ahead of any", new Counted().octet(0), NONE);
     }
 
     private static void feed() {
-        DrivenRuns x = new DrivenRuns();
+        Counted x = new Counted();
         // S(A), then C(B,D), from the highest byte of a on
         Talk.due("feed", x.feed(0x53284129, 0, 0, 0, 0), 20);
         Talk.due("end", x.end(4), 4);
@@ -51,7 +51,7 @@ public final class ReadingTest {
         Talk.due("write", x.write(1), 14);
         Talk.due("octet(5)", x.octet(5), '(');
         Talk.due("octet(10)", x.octet(10), 'E');
-        x = new DrivenRuns();
+        x = new Counted();
         for (int i = 1; i <= 39; i++) {
             Talk.due("feed " + i, x.feed(-1, -1, -1, -1, -1), 20 * i);
         }
@@ -70,7 +70,7 @@ public final class ReadingTest {
     }
 
     private static void end() {
-        DrivenRuns x = new DrivenRuns();
+        Counted x = new Counted();
         Talk.due("end(0)", x.end(0), 0);
         Talk.due("end(1)", x.end(1), NONE);
         Talk.due("end(-1)", x.end(-1), NONE);

@@ -116,7 +116,7 @@ public final class RunningTest {
         t.dueRun(0, 0, 0, 120, 120);
         t.goal("a(x)");
         t.dueRun(0, 3, 1, 121, 121);
-        Talk.due("result", t.result(0), "C(" + value + "," + value + "," + value + "," + value + ")");
+        Talk.due("result", t.x.result(0), 4 * value.length() + 6);
         t.bind("x=" + value.replaceFirst("S\\(A\\)", "A"));
         t.dueRun(0, 0, 1, 117, 117);
         // it is asked ahead of DONE, STUCK
@@ -128,8 +128,10 @@ public final class RunningTest {
         t.bind("x=" + forty());
         Talk.due("run(0, 2)", t.x.run(0, 2), 27 * 40 + 9);
         Talk.due("run(0, 0)", t.x.run(0, 0), 3);
-        String end = t.result(0);
-        Talk.due("its length", end.length(), 27L * forty().length() + 9 * 3 + 26);
+        int length = t.x.result(0);
+        Talk.due("its length", length, 27L * forty().length() + 9 * 3 + 26);
+        Talk.due("its last byte", t.x.octet(length - 1), ')');
+        Talk.due("behind it", t.x.octet(length), NONE);
     }
 
     private static String forty() {
@@ -321,6 +323,7 @@ public final class RunningTest {
         Talk.due("write(-1)", t.x.write(-1), NONE);
         Talk.due("it is still there", t.written(), text);
         // a step makes deeper ones than can be told
+        t = new Talk();
         t.program("a(x)=" + Talk.nested("S(", 19, "x", ")") + ";");
         t.expression(0, "a(" + Talk.nested("S(", 18, "x", ")") + ")");
         Talk.due("step", t.x.step(0, 0), 1);

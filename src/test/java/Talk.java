@@ -4,14 +4,21 @@ final class Talk {
 
     static int wrong = 0;
     static int checks = 0;
+    /** The words of the document that the next answers are asked for. */
+    private static String words = "";
 
-    final DrivenRuns x = new DrivenRuns();
+    final Counted x = new Counted();
+
+    /** Begins the test of one sentence of the document: what is wrong then is told with its words. */
+    static void sentence(String wordsOfIt) {
+        words = wordsOfIt + "\n    ";
+    }
 
     static void due(String call, long got, long want) {
         checks++;
         if (got != want) {
             wrong++;
-            System.out.println(call + " answered " + got + ", due is " + want);
+            System.out.println(words + call + " answered " + got + ", due is " + want);
         }
     }
 
@@ -19,7 +26,7 @@ final class Talk {
         checks++;
         if (!got.equals(want)) {
             wrong++;
-            System.out.println(call + " wrote " + got + ", due is " + want);
+            System.out.println(words + call + " wrote " + got + ", due is " + want);
         }
     }
 
@@ -66,25 +73,29 @@ final class Talk {
     /** What was written latest. */
     String written() {
         StringBuilder out = new StringBuilder();
-        for (int k = 0; x.octet(k) != NONE; k++) {
-            out.append((char) x.octet(k));
+        for (int sign = x.octet(0); sign != NONE; sign = x.octet(out.length())) {
+            out.append((char) sign);
         }
         return out.toString();
     }
 
     String text(int what) {
-        due("text(" + what + ") and its bytes", x.text(what), written().length());
-        return written();
+        return read("text(" + what + ")", x.text(what));
     }
 
     String write(int i) {
-        due("write(" + i + ") and its bytes", x.write(i), written().length());
-        return written();
+        return read("write(" + i + ")", x.write(i));
     }
 
     String result(int which) {
-        due("result(" + which + ") and its bytes", x.result(which), written().length());
-        return written();
+        return read("result(" + which + ")", x.result(which));
+    }
+
+    /** What a call wrote: as many bytes as it answered. */
+    private String read(String call, int length) {
+        String text = written();
+        due(call + " and its bytes", length, text.length());
+        return text;
     }
 
     /** How a run answers to 0 .. 3: how it ends, STEPS, SIZE, the greatest one. */
