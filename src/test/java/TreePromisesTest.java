@@ -28,6 +28,7 @@ public final class TreePromisesTest {
         savedNoTree();
         deepestOfEach();
         deepestWithout();
+        deepestOfNone();
         Talk.finish("TreePromisesTest");
     }
 
@@ -505,5 +506,27 @@ public final class TreePromisesTest {
         t.x.run(0, 3);
         t.x.saved();
         Talk.due("saved() without a STEP", t.x.deepest(), 0);
+    }
+
+    private static void deepestOfNone() {
+        Talk.sentence("29: of the latest RUN: a call that answers NONE, or -1001, has none (as NOTES.md reads it)");
+        Talk t = Talk.told(ADD, "S(a(Z,Z))");
+        t.expression(0, "a(Z,Z)");
+        t.x.run(0, 0);
+        for (int n : others(4)) {
+            t.x.run(n, 0);
+            t.x.result(n);
+            t.x.runOf(n, 0);
+            t.x.runOf(0, n);
+            Talk.due("deepest()", t.x.deepest(), 2);
+        }
+        t.x.runOf(0, 0);
+        Talk.due("deepest()", t.x.deepest(), 1);
+        for (int n : others(4)) {
+            t.x.run(0, n);
+            t.x.run(1, 0);
+            t.x.saved();
+            Talk.due("deepest()", t.x.deepest(), 1);
+        }
     }
 }

@@ -22,6 +22,7 @@ public final class TreeTermsTest {
         casesInOrder();
         newVarsWherever();
         newVarsUnlike();
+        newVarsUnlikeNamed();
         eightyLooked();
         goneLookedCount();
         oneByOne();
@@ -256,6 +257,20 @@ public final class TreeTermsTest {
         t = Talk.told("b(S(x),y)=b(x,S(y));", "C(m,b(z,z),m0,n)");
         t.x.drive();
         dueResidue(t, "a0(S(m0),m1)=a0(m0,S(m1));", "C(m,a0(z,z),m0,n)");
+    }
+
+    private static void newVarsUnlikeNamed() {
+        Talk.sentence("new VARS: unlike each that can be told");
+        for (char letter = 'm'; letter <= 'z'; letter++) {
+            for (int digits = -1; digits <= 99; digits++) {
+                String var = letter + (digits < 0 ? "" : String.valueOf(digits));
+                String other = var.equals("x") ? "y" : "x";
+                Talk t = Talk.told("e(C(x,y),w)=f(w,x,y);", "e(" + other + "," + var + ")");
+                Talk.due("drive() with " + var, t.x.drive(), 2);
+                t.x.writeNode(1);
+                Talk.due("below e with " + var, t.written(), "f(m0,m1,m2)");
+            }
+        }
     }
 
     /** A CON of so many things (1 to 40). */
