@@ -20,6 +20,7 @@ public final class DrivingTest {
         noTree();
         take();
         saved();
+        exampleOfReadme();
         Talk.finish("DrivingTest");
     }
 
@@ -420,5 +421,25 @@ public final class DrivingTest {
         t.x.drive();
         Talk.due("both DONE", t.x.saved(), 1);
         Talk.due("deepest() without a STEP", t.x.deepest(), 0);
+    }
+
+    private static void exampleOfReadme() {
+        Talk.sentence("the example of README.md");
+        Talk t = new Talk();
+        t.x.feed(0x61285A2C, 0x78293D78, 0x3B612853, 0x2878292C, 0x79293D53);
+        t.x.feed(0x28612878, 0x2C792929, 0x3B000000, 0, 0);
+        Talk.due("end(29)", t.x.end(29), 29);
+        Talk.due("program()", t.x.program(), 2);
+        t.x.feed(0x6128782C, 0x79290000, 0, 0, 0);
+        Talk.due("end(6)", t.x.end(6), 6);
+        Talk.due("goal()", t.x.goal(), 3);
+        Talk.due("drive()", t.x.drive(), 4);
+        Talk.due("text(0)", t.text(0), "a0(Z,m0)=m0;a0(S(m0),m1)=S(a0(m0,m1));");
+        t.x.feed(0x783D5328, 0x5A293B79, 0x3D5A0000, 0, 0);
+        Talk.due("end(10)", t.x.end(10), 10);
+        Talk.due("bind()", t.x.bind(), 2);
+        Talk.due("run(0, 1)", t.x.run(0, 1), 2);
+        Talk.due("saved()", t.x.saved(), 0);
+        Talk.due("take()", t.x.take(), 2);
     }
 }

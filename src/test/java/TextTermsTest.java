@@ -503,6 +503,9 @@ public final class TextTermsTest {
         faulty('p', "a(x,y)=x;a(y,y)=y;", 13);
         faulty('p', "a(x)=x;a(?", 9);
         faulty('p', "a(x)=x;a(y", 10);
+        // the = has to be there (as NOTES.md reads it)
+        faulty('p', "a(x)=x;a(y)", 11);
+        faulty('p', "a(x)=x;a(y)?", 11);
         faulty('p', "a(x)=x;a(y)=", 7);
         faulty('p', "a(x)=x;a(y)=?", 7);
         faulty('p', "a(x)=x;a(y)=z;", 7);

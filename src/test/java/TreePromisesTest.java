@@ -464,6 +464,9 @@ public final class TreePromisesTest {
         t.x.drive();
         t.x.write(0);
         Talk.due("of result still", t.x.deepest(), 4);
+        t.expression(1, "S(S(S(S(a(Z,Z)))))");
+        Talk.due("step(1, 1)", t.x.step(1, 1), 1);
+        Talk.due("of result still, behind a STEP of step() that lay deeper", t.x.deepest(), 4);
         t.x.saved();
         Talk.due("of the second one, without a STEP", t.x.deepest(), 0);
         t = Talk.told(APPEND, "S(a(a(x,y),z))");

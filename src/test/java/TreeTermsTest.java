@@ -16,6 +16,7 @@ public final class TreeTermsTest {
         letIsNoKind();
         foldedAheadOfLet();
         nearestCoupled();
+        coupledNotEmbedded();
         letBelow();
         aboveBecomesLet();
         bindingsOfAbove();
@@ -182,6 +183,16 @@ public final class TreeTermsTest {
         dueNodes(t, "2 - - - f(S(m0))", "2 0 - - h(S(m0))", "2 1 - 0 f(m0)", "3 2 - 1 h(m0)", "4 3 2 - f(m0)",
                 "5 3 - - f(S(S(m0)))", "4 5 2 - f(m0)", "1 5 - - S(S(m0))", "1 7 - - S(m0)", "0 8 - - m0");
         dueResidue(t, "a0(m0)=a1(m0);a1(S(m0))=a0(m0);a1(T(m0))=a0(S(S(m0)));", "a0(x)");
+    }
+
+    private static void coupledNotEmbedded() {
+        Talk.sentence("whose EXPRESSION is COUPLED in it: EMBEDDED in an argument of it alone is not");
+        Talk t = Talk.told("f(A,y)=f(D,f(A,y));f(D,y)=y;", "f(A,x)");
+        dueNodes(t, "2 - - 0 f(A,m0)", "2 0 - - f(D,f(A,m0))", "4 1 0 - f(A,m0)");
+        dueResidue(t, "a0(m0)=a0(m0);", "a0(x)");
+        // the outermost ones are alike, and each argument is in the whole, but not in its own place
+        t = Talk.told("g(A,y)=g(B,S(A));g(B,y)=y;", "g(A,S(x))");
+        dueNodes(t, "2 - - - g(A,S(m0))", "2 0 - - g(B,S(A))", "1 1 - - S(A)", "1 2 - - A");
     }
 
     private static void letBelow() {
